@@ -299,16 +299,11 @@ public final class EmptierOfTwo {
     // ---- a day
 
     public boolean day(int porter, int seed) {
-        if (!isPorter(porter)) {
-            trouble = NO_SUCH;
-            return false;
-        }
-        if (seed < 0 || seed >= SEEDS) {
-            trouble = NUMBER;
+        trouble = !isPorter(porter) ? NO_SUCH : seed < 0 || seed >= SEEDS ? NUMBER : FINE;
+        if (trouble != FINE) {
             return false;
         }
         day.begin(porter, seed);
-        trouble = FINE;
         return true;
     }
 
@@ -331,33 +326,17 @@ public final class EmptierOfTwo {
     }
 
     public long goes(int box, boolean lower) {
-        if (!isBox(box)) {
-            return refuse(NO_SUCH);
-        }
-        if (day.letters >= hall.letters) {
-            return refuse(NO_MORE);
+        if (isNextRefused(box)) {
+            return NONE;
         }
         choice.ready(hall, hall.porter[day.porter]);
         choice.weigh(day.holds, day.slot, day.letters + 1);
-        long upper = 0;
-        long all = 0;
-        for (int taken = 0; taken < hall.boxes; taken++) {
-            boolean there = hall.roomFrom(day.holds, taken) == box;
-            for (int after = 0; after < SLOTS; after++) {
-                long ways = choice.ways[taken * SLOTS + after];
-                all += ways;
-                upper += there ? ways : 0;
-            }
-        }
-        return told(upper, all, lower);
+        return told(choice.waysTo(day.holds, box), choice.allWays(), lower);
     }
 
     public int place(int box) {
-        if (!isBox(box)) {
-            return refuse(NO_SUCH);
-        }
-        if (day.letters >= hall.letters) {
-            return refuse(NO_MORE);
+        if (isNextRefused(box)) {
+            return NONE;
         }
         choice.ready(hall, hall.porter[day.porter]);
         choice.weigh(day.holds, day.slot, day.letters + 1);
@@ -394,12 +373,11 @@ public final class EmptierOfTwo {
     }
 
     public boolean back(int mark) {
-        if (mark < 0 || mark >= markCount) {
-            trouble = NO_SUCH;
+        trouble = mark < 0 || mark >= markCount ? NO_SUCH : FINE;
+        if (trouble != FINE) {
             return false;
         }
         day.become(marks[mark]);
-        trouble = FINE;
         return true;
     }
 
@@ -497,36 +475,20 @@ public final class EmptierOfTwo {
     }
 
     private boolean isRefused(int porter, int k) {
-        if (!isPorter(porter)) {
-            trouble = NO_SUCH;
-            return true;
-        }
-        if (!isCount(k)) {
-            trouble = NUMBER;
-            return true;
-        }
-        if (isTooMany(porter, k)) {
-            trouble = NO_ROOM;
-            return true;
-        }
-        return false;
+        trouble = !isPorter(porter) ? NO_SUCH : !isCount(k) ? NUMBER : isTooMany(porter, k) ? NO_ROOM : FINE;
+        return trouble != FINE;
     }
 
     private boolean isBestRefused(int glances, int k, int m) {
-        if (!hall.told) {
-            trouble = NO_SUCH;
-            return true;
-        }
-        if (glances < 1 || glances > MOST_GLANCES || !isCount(k) || !isFullest(m)) {
-            trouble = NUMBER;
-            return true;
-        }
+        boolean numbers = glances >= 1 && glances <= MOST_GLANCES && isCount(k) && isFullest(m);
         trial.become(glances, LAZY, 0);
-        if (hall.tooMany(trial, k)) {
-            trouble = NO_ROOM;
-            return true;
-        }
-        return false;
+        trouble = !hall.told ? NO_SUCH : !numbers ? NUMBER : hall.tooMany(trial, k) ? NO_ROOM : FINE;
+        return trouble != FINE;
+    }
+
+    private boolean isNextRefused(int box) {
+        trouble = !isBox(box) ? NO_SUCH : day.letters >= hall.letters ? NO_MORE : FINE;
+        return trouble != FINE;
     }
 
     private long[] ofPorter(int p) {
@@ -1046,11 +1008,12 @@ public final class EmptierOfTwo {
 
         /** The box that has a LETTER for which this one is taken; NONE if it is RETURNED. */
         int roomFrom(int[] held, int taken) {
-            for (int i = 0; i < boxes && taken >= 0; i++) {
-                int b = taken + i < boxes ? taken + i : taken + i - boxes;
+            int b = taken;
+            for (int i = 0; i < boxes && b >= 0 && b < boxes; i++) {
                 if (held[b] < room[b]) {
                     return b;
                 }
+                b = b + 1 < boxes ? b + 1 : 0;
             }
             return NONE;
         }
@@ -1095,7 +1058,7 @@ public final class EmptierOfTwo {
         }
     }
 
-    /** A DAY. */
+    /** A DAY: how far it is, and what it has left behind. */
     private static final class Day {
         int porter;
         int seed;
@@ -1282,6 +1245,26 @@ public final class EmptierOfTwo {
                 }
             }
             return least;
+        }
+
+        long allWays() {
+            long sum = 0;
+            for (int i = 0; i < MOST_BOXES * SLOTS; i++) {
+                sum += ways[i];
+            }
+            return sum;
+        }
+
+        long waysTo(int[] held, int box) {
+            long sum = 0;
+            for (int taken = 0; taken < hall.boxes; taken++) {
+                if (hall.roomFrom(held, taken) == box) {
+                    for (int after = 0; after < SLOTS; after++) {
+                        sum += ways[taken * SLOTS + after];
+                    }
+                }
+            }
+            return sum;
         }
 
         /** The one slot behind all ways by which the LETTER goes to a box; NONE if there is none, or more. */
