@@ -337,10 +337,27 @@ public final class OracleTest {
             due.is("place trouble", x.trouble(), 0);
         }
 
+        /** What is counted between the letters of a day leaves the day alone. */
+        private static void countAside(EmptierOfTwo x, Model m, Random r) {
+            switch (r.nextInt(8)) {
+                case 0:
+                    x.best(1 + r.nextInt(3), r.nextInt(m.letters + 1), r.nextInt(10));
+                    break;
+                case 1:
+                    x.never(r.nextInt(m.letters + 1), 1 + r.nextInt(9));
+                    break;
+                case 2:
+                    x.states(r.nextInt(m.porters.size()), r.nextInt(m.letters + 1));
+                    break;
+                default:
+            }
+        }
+
         static void walk(EmptierOfTwo x, Model m, Random r, Due due) {
             DayWalk day = new DayWalk(m);
             List<DayWalk> marks = new ArrayList<>();
             for (int i = 0; i < 40; i++) {
+                countAside(x, m, r);
                 switch (r.nextInt(8)) {
                     case 0: {
                         int p = r.nextInt(m.porters.size());
